@@ -106,6 +106,10 @@ public final class AuditTest {
         book.draw(0, 0, MOST);
         book.test(0, MOST - 1);
         DUE.is("much", book.found(0, 1), MOST);
+        book = paidBook(1);
+        book.draw(0, 0, 70);
+        book.test(0, 1);
+        DUE.is("one penny stands for a step", book.found(0, 1), 70);
     }
 
     private static void questions() {
@@ -176,6 +180,8 @@ public final class AuditTest {
         DUE.is("falls(-1)", book.falls(-1), NONE);
         DUE.is("falls(2)", book.falls(2), NONE);
         DUE.is("a vote", book.falls(1), NONE);
+        book.pay(Due.claim(book, 40));
+        Due.claim(book, 50);
         book.now(107);
         DUE.is("day 7", book.falls(0), NONE);
         DUE.yes("question", book.question(0));
@@ -304,6 +310,13 @@ public final class AuditTest {
         }
         book.now(360);
         DUE.is("one place is free", book.close(0), 1);
+        SupplyBook pennies = Due.filled();
+        Due.law(pennies, "c50");
+        pennies.vote(2, 0, 1, 0, 0);
+        pennies.vote(2, 0, 2, 0, 0);
+        pennies.now(360);
+        DUE.is("half a penny is none, one is", pennies.close(0), 1);
+        DUE.is("one penny", pennies.about(2, 2), 1);
         DUE.is("at most", book.about(79, 2), MOST);
         DUE.is("80", book.count(4), 80);
         book.now(720);
@@ -335,6 +348,11 @@ public final class AuditTest {
         check(book, 0, 5, 12, 0, 0, 100, 1, 0, 100, 3, 1, 101, 2, 1, 101, 0, 0, 0);
         check(book, 1, 0, NONE, right);
         check(book, 1, 1, 0, right);
+        book.now(360);
+        book.vote(0, 0, 9, 1, 0);
+        book.pay(Due.claim(book, 1));
+        check(book, 1, 1, NONE, 4, 2, 360);
+        check(book, 0, 4, NONE, right);
         Due.feedNumbers(book, right);
         int[][] wrong = {{-1, 0}, {10, 0}, {0, -1}, {0, 6}, {0, Integer.MAX_VALUE}, {0, Integer.MIN_VALUE},
             {0, 357913942}};

@@ -68,6 +68,11 @@ public final class AuthoritiesTest {
 
     private static void advances() {
         SupplyBook book = Due.filled();
+        Due.law(book, 0, 0, "e1");
+        DUE.is("the first", book.advance(0, 600), 0);
+        DUE.is("with the first too much", book.advance(0, 401), NONE);
+        DUE.is("with the first enough", book.advance(0, 400), 1);
+        book = Due.filled();
         DUE.is("0 with no law", book.advance(0, 0), 0);
         DUE.is("1 with no law", book.advance(0, 1), NONE);
         Due.law(book, 0, 400, "e2");
@@ -115,14 +120,17 @@ public final class AuthoritiesTest {
         DUE.no("cover of -1", book.cover(-1, fits));
         DUE.is("nothing covers it", book.about(advance, 6), NONE);
         int ceiling = book.ceiling(fits, 1, 100);
+        int beside = book.claim(0, 0, 0, 5, NONE, false);
+        DUE.is("paid by another", book.pay(beside), small);
         DUE.yes("cover", book.cover(advance, fits));
+        DUE.is("that counts by the other", book.look(beside, 8), small);
         DUE.no("cover again", book.cover(advance, fits));
         DUE.is("by", book.about(advance, 6), fits);
         DUE.is("left of the vote", book.left(fits, 0), 0);
         DUE.is("left of the advance", book.left(advance, 0), 0);
         DUE.is("left of the ceiling", book.left(ceiling, 0), -200);
         DUE.is("the claim counts by", book.look(c, 8), fits);
-        DUE.is("the chest is as it was", book.sum(0), MOST - 300);
+        DUE.is("the chest is as it was", book.sum(0), MOST - 305);
         int d = book.claim(0, 1, 0, 1, NONE, false);
         book.strike(carry);
         book.strike(standing);
@@ -145,6 +153,7 @@ public final class AuthoritiesTest {
         DUE.is("not struck", book.about(0, 5), NONE);
         int c = Due.claim(book, 5);
         DUE.is("over the ceiling", book.may(c), -14);
+        DUE.is("as much as the ceiling has", book.may(Due.claim(book, 4)), 0);
         book.now(3);
         DUE.yes("strike the ceiling", book.strike(1));
         DUE.is("the ceiling bars no more", book.may(c), 0);
@@ -225,6 +234,13 @@ public final class AuthoritiesTest {
         DUE.is("more than is bound", book.pay(d), -13);
         DUE.is("what is bound yet", book.pay(e), v);
         DUE.is("left", book.left(v, 0), 0);
+        book.now(3 * 360);
+        DUE.is("of the contract of years", book.pay(book.claim(0, 0, 0, 30, 2, false)), standing);
+        DUE.is("no more is bound in year 3", book.may(book.claim(0, 0, 0, 1, 2, false)), -13);
+        DUE.is("left in year 3", book.left(standing, 3), 20);
+        DUE.is("left in year 4", book.left(standing, 4), 20);
+        book.now(4 * 360);
+        DUE.is("bound again in year 4", book.pay(book.claim(0, 0, 0, 30, 2, false)), standing);
     }
 
     private static void lefts() {

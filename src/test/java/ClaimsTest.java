@@ -154,8 +154,9 @@ public final class ClaimsTest {
         Due.law(book, 0, 364, "n(1=1)");
         Due.law(book, 366, 3599, "n(1=1)");
         book.sign(c, 1);
-        DUE.is("struck laws and those of other days bar nothing", book.may(c), -16);
-        DUE.is("rank 5 is too low for 9", book.look(c, 6), 2);
+        DUE.is("rank 5 is too low for 9", book.may(c), -16);
+        int plain = book.vote(0, 0, 100, 1, 0);
+        DUE.is("struck laws and those of other days bar nothing", book.may(c), plain);
     }
 
     private static void signsNeeded() {
@@ -171,6 +172,11 @@ public final class ClaimsTest {
         book.hand(0, 5);
         book.sign(c, 3);
         DUE.is("rank 5", book.may(c), 0);
+        Due.law(book, "x0.0;s(a=10)3");
+        c = book.claim(1, 0, 4, 10, NONE, false);
+        DUE.is("no sign", book.may(c), -16);
+        book.sign(c, 0);
+        DUE.is("rank 3 of the first hand", book.may(c), 0);
     }
 
     private static void greatestBar() {

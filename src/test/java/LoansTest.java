@@ -52,6 +52,12 @@ public final class LoansTest {
         }
         DUE.is("the chest", book.sum(0), 1300);
         DUE.is("owed", book.sum(3), 1300);
+        SupplyBook like = book("b2");
+        like.bid(5, 7);
+        like.bid(6, 7);
+        DUE.is("of like ones by numbers", like.tender(9, false), 2);
+        DUE.is("the first", like.loan(0, 0), 5);
+        DUE.is("the second", like.loan(1, 0), 4);
         book.bid(701, 1);
         DUE.is("together above", book.tender(MOST, false), NONE);
         DUE.is("together as much as may be", book.tender(700, false), 1);

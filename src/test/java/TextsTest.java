@@ -156,6 +156,10 @@ public final class TextsTest {
         Due.feed(book, text + "x");
         DUE.is("201 bytes", book.law(0, 3599, 201), NONE);
         DUE.is("200 of them", book.law(0, 3599, 200), 0);
+        book.head(NONE);
+        Due.feed(book, text + "x");
+        DUE.is("201 bytes as words", book.vote(0, 0, 1, 0, 201), NONE);
+        DUE.is("200 of them", book.vote(0, 0, 1, 0, 200), 0);
     }
 
     private static void counts() {

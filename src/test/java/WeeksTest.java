@@ -148,6 +148,11 @@ public final class WeeksTest {
         int chest = (int) two.sum(0);
         two.due(4, chest + 40);
         DUE.is("both together are enough", two.shortWeek(), NONE);
+        two.due(4, 1);
+        DUE.is("a penny more is not there by the worst", two.shortWeek(), 4);
+        two.offer(1, 4, 51, 7);
+        DUE.is("by an offer it is", two.judge(1), 7);
+        DUE.is("offers are no part of what is short", two.shortWeek(), 4);
         two.due(3, chest);
         DUE.is("week 3 takes all, week 4 is short", two.shortWeek(), 4);
         two.due(3, 1);
@@ -206,6 +211,21 @@ public final class WeeksTest {
         DUE.is("the week is past", book.plan(), 0);
     }
 
+    private static void likePlans() {
+        SupplyBook book = new SupplyBook();
+        book.due(10, 100);
+        book.offer(50, 5, 51, 2);
+        book.offer(50, 5, 51, 2);
+        book.offer(100, 5, 51, 5);
+        DUE.is("least cost, though by more", book.plan(), 3);
+        book.offer(100, 5, 51, 4);
+        DUE.is("like cost by fewer", book.plan(), 8);
+        DUE.is("cost of the first", book.judge(3), 4);
+        book.now(35);
+        DUE.is("what came this week counts no more", book.judge(15), -12);
+        DUE.is("no plan", book.plan(), NONE);
+    }
+
     private static void backInTurn() {
         SupplyBook book = new SupplyBook();
         book.due(5, 10);
@@ -228,6 +248,7 @@ public final class WeeksTest {
         worstOfTaxes();
         offers();
         plans();
+        likePlans();
         backInTurn();
         DUE.end();
     }
