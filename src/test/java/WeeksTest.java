@@ -223,6 +223,11 @@ public final class WeeksTest {
         DUE.is("cost of the first", book.judge(3), 4);
         book.now(35);
         DUE.is("what came this week counts no more", book.judge(15), -12);
+        SupplyBook past = new SupplyBook();
+        past.now(35);
+        past.offer(10, 5, 3, 1);
+        past.offer(10, 4, 3, 2);
+        DUE.is("nor goes it back", past.judge(3), 3);
         DUE.is("no plan", book.plan(), NONE);
     }
 
