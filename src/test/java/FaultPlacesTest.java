@@ -77,7 +77,8 @@ public final class FaultPlacesTest {
 
     /** 2 a seventh digit, at it. */
     private static void seventhDigits() {
-        String[] ahead = {"m", "c", "b", "e", "d", "x", "x1.", "o(u", "o(", "o(a=", "o([", "o(a=[a*", "o(!u", "m1;o((a=1|"};
+        String[] ahead = {"m", "c", "b", "e", "d", "x", "x1.", "o(u", "o(", "o(a=", "o([", "o(a=[a*", "o(!u",
+            "m1;o((a=1|"};
         for (String s : ahead) {
             fault(s + "0000000", -2000 - s.length() - 6);
             fault(s + "9999999", -2000 - s.length() - 6);

@@ -171,7 +171,7 @@ public final class SentencesTest {
         DUE.is("left of the advance", book.left(advance, 0), 0);
     }
 
-    /** To cover: what is left of the vote in its year is asked, though now is a later one; what is bound is not left. */
+    /** To cover: what is left of the vote in its year is asked, though now is later; what is bound is not left. */
     private static void coversOfOldYears() {
         SupplyBook book = Due.filled();
         Due.law(book, "e1");
@@ -547,8 +547,8 @@ public final class SentencesTest {
 
     /** A fault times the step through its claim's sum, or itself if that sum is the step or more. */
     private static void faultsBySteps() {
-        int[][] rows = {{99, 50, 100, 50}, {100, 50, 100, 50}, {101, 50, 100, 50}, {99, 98, 100, 98}, {99, 99, 100, 100},
-            {7, 3, 10, 4}, {7, 0, 10, 0}, {1, 1, 1, 1}, {1, 1, 2, 2}, {3, 2, 1000, 666}};
+        int[][] rows = {{99, 50, 100, 50}, {100, 50, 100, 50}, {101, 50, 100, 50}, {99, 98, 100, 98},
+            {99, 99, 100, 100}, {7, 3, 10, 4}, {7, 0, 10, 0}, {1, 1, 1, 1}, {1, 1, 2, 2}, {3, 2, 1000, 666}};
         for (int[] r : rows) {
             SupplyBook book = Due.filled();
             book.vote(0, 0, MOST, 0, 0);
@@ -694,7 +694,8 @@ public final class SentencesTest {
             DUE.is("what is carried", book.about(1, 2), r[2] > 0 ? 50 : NONE);
             DUE.is("its year", book.about(1, 3), r[2] > 0 ? 1 : NONE);
         }
-        int[][] sums = {{0, 100, 0}, {1, 100, 1}, {1, 99, 0}, {2, 50, 1}, {99, 1, 0}, {100, 1, 1}, {199, 1, 1}, {7, 0, 0}};
+        int[][] sums = {{0, 100, 0}, {1, 100, 1}, {1, 99, 0}, {2, 50, 1}, {99, 1, 0}, {100, 1, 1}, {199, 1, 1},
+            {7, 0, 0}};
         for (int[] s : sums) {
             SupplyBook book = Due.filled();
             Due.law(book, "c" + s[1]);
