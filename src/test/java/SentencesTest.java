@@ -100,6 +100,27 @@ public final class SentencesTest {
         }
     }
 
+    /** As deep as can be (eight open in one another), a condition is reckoned as any other. */
+    private static void deepConditions() {
+        String[] hold = {"((((((((a=7))))))))", "([[[[[[[a]]]]]]]=7)", "(!!!!!!a=7)", "(!!!!!!!a=8)", "(!(!(!(!u0))))",
+            "(((!(!(!a=8)))))", "(((([[[[a+1]-1]*1]/1]=[7]))))", "(!(!([[[a]]]=7)))", "(!!!!!!(1=1&u0))",
+            "(1=2|(1=2|(1=2|(1=2|(1=2|(1=2|(1=2|(a=7))))))))", "(7=[[[[[[[a]]]]]]])",
+            "(1=1&(1=1&(1=1&(1=1&(1=1&(1=1&(1=1&!u9)))))))"};
+        for (String text : hold) {
+            SupplyBook book = Due.filled();
+            Due.vote(book, 0, 0, 100, 0, "o" + text);
+            Due.vote(book, 0, 0, 200, 0, "n" + text);
+            DUE.is("only of " + text, book.may(Due.claim(book, 7)), 0);
+            book.strike(0);
+            DUE.is("not of " + text, book.may(Due.claim(book, 7)), -15);
+            Due.law(book, "s" + text + "9");
+            Due.vote(book, 0, 0, 300, 0, "t" + text);
+            book.strike(1);
+            DUE.is("a tender is asked for ahead of a sign: " + text, book.may(Due.claim(book, 7)), -17);
+            DUE.is("then the sign: " + text, book.may(book.claim(0, 0, 0, 7, NONE, true)), -16);
+        }
+    }
+
     private static void strikesOfClauses() {
         SupplyBook book = new SupplyBook();
         Due.law(book, "x1.0;m5;x0.1;x0.0");
@@ -747,6 +768,7 @@ public final class SentencesTest {
         ranks();
         numbersOnDays();
         forceOfRules();
+        deepConditions();
         strikesOfClauses();
         ceilings();
         ceilingsOfCovered();
