@@ -6,12 +6,13 @@ public final class LooksTest {
     private static void looks() {
         SupplyBook book = Due.filled();
         book.head(0);
+        book.head(1);
         book.vote(0, 0, 1000, 0, 0);
         book.commit(0, 100, 0, 0);
-        int c = book.claim(1, 1, 9, 77, 0, true);
+        int c = book.claim(1, 2, 9, 77, 0, true);
         int d = book.claim(0, 0, 0, 5, NONE, false);
         book.sign(c, 0);
-        int[] dueC = {1, 1, 9, 77, 0, 1, 1, NONE, NONE, 0};
+        int[] dueC = {1, 2, 9, 77, 0, 1, 1, NONE, NONE, 0};
         int[] dueD = {0, 0, 0, 5, NONE, 0, 0, NONE, NONE, 0};
         for (int what = 0; what < 10; what++) {
             DUE.is("look(c, " + what + ")", book.look(c, what), dueC[what]);

@@ -40,6 +40,107 @@ public final class SentencesTest {
         }
     }
 
+    /** The year of now on its last day and the next one: for votes that pay and move, contracts and dues. */
+    private static void lastDayOfYear() {
+        for (int year = 0; year < 9; year += 4) {
+            SupplyBook book = Due.filled();
+            for (int v = 0; v < 4; v++) {
+                book.vote(v % 2 * 2, 0, 1000, year + v / 2, 0);
+            }
+            int standing = book.vote(3, 0, 5000, year, 0);
+            book.commit(standing, 2000, year, year + 1);
+            book.now(year * 360 + 359);
+            DUE.yes("move of this year", book.move(0, 1, 10));
+            DUE.no("move of the next", book.move(2, 3, 10));
+            DUE.no("from this to the next", book.move(0, 3, 10));
+            DUE.is("pay of this year", book.pay(Due.claim(book, 7)), 0);
+            DUE.is("of the contract", book.pay(book.claim(0, 0, 0, 1500, 0, false)), standing);
+            DUE.is("more than is bound", book.pay(book.claim(0, 0, 0, 501, 0, false)), -13);
+            book.due(51, 3);
+            DUE.is("dues", book.sum(5), 3);
+            DUE.is("left of the vote", book.left(0, year), 983);
+            DUE.is("left of the standing one", book.left(standing, year), 3000);
+            book.now(year * 360 + 360);
+            DUE.no("move of the year before", book.move(0, 1, 10));
+            DUE.yes("move of this", book.move(2, 3, 10));
+            DUE.is("pay of this", book.pay(Due.claim(book, 7)), 2);
+            DUE.is("of the contract, bound anew", book.pay(book.claim(0, 0, 0, 501, 0, false)), standing);
+            DUE.is("left of the vote before", book.left(0, year), 983);
+            DUE.is("left of this one", book.left(2, year + 1), 983);
+            DUE.is("left of the standing one", book.left(standing, year + 1), 3000);
+            DUE.is("left of it before", book.left(standing, year), 3000);
+            DUE.is("paid", book.paid(year, 0, 3599), 1507);
+            DUE.is("paid", book.paid(year + 1, 0, 3599), 508);
+            DUE.is("no dues yet", book.sum(5), 0);
+            book.due(0, 9);
+            DUE.is("dues", book.sum(5), 9);
+        }
+    }
+
+    /** The week of now on its last day and on the next one's first: for what is short, offers and what is foretold. */
+    private static void lastDayOfWeek() {
+        for (int week = 5; week < 50; week += 11) {
+            SupplyBook book = new SupplyBook();
+            book.now(7 * (week - 4));
+            book.comes(4, 10);
+            book.now(7 * week + 7);
+            book.comes(4, 100);
+            book.now(360 + 7 * (week - 4));
+            book.comes(4, 30);
+            book.offer(500, week + 1, 51, 6);
+            book.due(week + 1, 331);
+            book.now(360 + 7 * week + 6);
+            DUE.is("week " + week + " on its last day", book.foretold(4, week, 0), NONE);
+            DUE.is("the next week", book.foretold(4, week + 1, 0), 300);
+            DUE.is("the least", book.foretold(4, week + 1, 1), 300);
+            DUE.is("the chest", book.sum(0), 140);
+            DUE.is("140 and 300, less 331", book.shortWeek(), NONE);
+            DUE.is("so none is needed", book.plan(), 0);
+            book.due(week + 1, 110);
+            DUE.is("a penny too much", book.shortWeek(), week + 1);
+            DUE.is("by the offer", book.judge(1), 6);
+            DUE.is("the plan", book.plan(), 1);
+            book.now(360 + 7 * week + 7);
+            DUE.is("the day behind it", book.foretold(4, week + 1, 0), NONE);
+            DUE.is("not short", book.shortWeek(), NONE);
+            DUE.is("no plan is needed", book.plan(), 0);
+            book.due(week + 2, 141);
+            DUE.is("the offer does not come", book.judge(1), -2 - (week + 2));
+            DUE.is("no plan", book.plan(), NONE);
+            book.now(360 + 7 * week + 13);
+            DUE.is("still not", book.plan(), NONE);
+            book.now(360 + 7 * week + 14);
+            DUE.is("past", book.plan(), 0);
+        }
+    }
+
+    /** What laws say of today: on the first and the last day of their force, and the days beside them. */
+    private static void lawsOfToday() {
+        int[] days = {19, 20, 25, 30, 31};
+        for (int day : days) {
+            boolean inForce = day >= 20 && day <= 30;
+            SupplyBook book = Due.filled();
+            Due.law(book, 20, 30, "b1;e1;m100;d2");
+            book.vote(0, 0, 100, 0, 0);
+            book.vote(0, 0, 100, 0, 0);
+            book.bid(5, 5);
+            book.now(day);
+            DUE.is("advance on day " + day, book.advance(0, 1000), inForce ? 2 : NONE);
+            DUE.is("tender on day " + day, book.tender(5, false), inForce ? 1 : NONE);
+            DUE.is("move on day " + day, Rich.of(book.move(0, 1, 100)), inForce ? 1 : 0);
+            DUE.is("advance of nothing on day " + day, book.advance(0, 0), inForce ? 3 : 2);
+            int v = book.count(4) - 1;
+            book.now(day + 2);
+            DUE.is("two days behind " + day, book.falls(v), NONE);
+            book.now(day + 3);
+            DUE.is("three days behind " + day, book.falls(v), inForce ? 0 : NONE);
+            book.now(day + 30);
+            DUE.is("thirty days behind " + day, book.falls(v), NONE);
+            book.now(day + 31);
+            DUE.is("31 days behind " + day, book.falls(v), inForce ? NONE : 0);
+        }
+    }
+
     // ---- part 2
 
     /** "s(C)R needs a sign of a rank of R or more": each R by each rank. */
@@ -747,13 +848,17 @@ public final class SentencesTest {
     private static void carriedOn() {
         SupplyBook book = Due.filled();
         Due.law(book, "c100");
-        Due.vote(book, 2, 0, 64, 0, "n(a=1)");
+        book.head(0);
+        book.head(1);
+        Due.vote(book, 2, 1, 64, 0, "n(a=1)");
         book.now(360);
         book.close(0);
-        DUE.is("pay of the carry", book.pay(Due.claim(book, 4)), 1);
-        DUE.is("by its words", book.may(Due.claim(book, 1)), -15);
+        DUE.is("pay of the carry", book.pay(book.claim(0, 2, 0, 4, NONE, false)), 1);
+        DUE.is("by its words", book.may(book.claim(0, 1, 0, 1, NONE, false)), -15);
+        DUE.is("by its head", book.may(Due.claim(book, 4)), -11);
         book.now(720);
         DUE.is("close", book.close(1), 1);
+        DUE.is("its head", book.about(2, 1), 1);
         DUE.is("what is left", book.about(2, 2), 60);
         DUE.is("its clauses", book.about(2, 4), 1);
         book.strike(2);
@@ -765,6 +870,9 @@ public final class SentencesTest {
     public static void main(String[] args) {
         weekOfEachDay();
         yearOfDays();
+        lastDayOfYear();
+        lastDayOfWeek();
+        lawsOfToday();
         ranks();
         numbersOnDays();
         forceOfRules();
