@@ -51,6 +51,39 @@ public final class CutsTest {
         DUE.is("two floors are above it", book.cut(70), NONE);
     }
 
+    /** "Of like ones of least sum": by a penny, wherever it stands. "Of like ones the least, as bits": of one sum. */
+    private static void likeCuts() {
+        int[][] rows = {{20, 21, 1}, {21, 20, 2}, {20, 20, 1}, {0, 1, 1}, {1, 0, 2}, {0, 0, 1}};
+        for (int[] r : rows) {
+            SupplyBook book = book();
+            book.ask(0, r[0], 3, false);
+            book.ask(0, r[1], 3, false);
+            int total = Math.max(r[0], r[1]);
+            // where both fit, both are worth more
+            boolean both = r[0] + r[1] <= total;
+            DUE.is("cut of " + r[0] + " and " + r[1], book.cut(total), both ? 3 : r[2]);
+            DUE.is("more of " + r[0] + " and " + r[1], book.more(total), both ? 0 : r[0] + r[1] - total);
+        }
+        int[][] worths = {{2, 1, 1}, {1, 2, 2}, {1000000, 999999, 1}, {999999, 1000000, 2}};
+        for (int[] w : worths) {
+            SupplyBook book = book();
+            book.ask(0, 20, w[0], false);
+            book.ask(0, 20, w[1], false);
+            DUE.is("cut of worths " + w[0] + " and " + w[1], book.cut(39), w[2]);
+            DUE.is("of none", book.cut(19), 0);
+            DUE.is("of both", book.cut(40), 3);
+        }
+        SupplyBook book = book();
+        book.ask(0, 11, 2, false);
+        book.ask(0, 10, 2, false);
+        book.ask(0, 6, 1, false);
+        book.ask(0, 4, 1, false);
+        DUE.is("one or two of like sum: the least, as bits", book.cut(10), 2);
+        DUE.is("a penny less", book.cut(9), 8);
+        book.ask(0, 3, 1, false);
+        DUE.is("two of less sum", book.cut(10), 24);
+    }
+
     private static void manyItems() {
         SupplyBook book = book();
         for (int i = 0; i < 14; i++) {
@@ -93,6 +126,7 @@ public final class CutsTest {
     public static void main(String[] args) {
         asks();
         cuts();
+        likeCuts();
         manyItems();
         mores();
         DUE.end();
