@@ -1808,13 +1808,13 @@ public final class SupplyBook {
             long base = arrivedIn(k, year - 1, week);
             long before = 0;
             long since = 0;
-            long least = Long.MAX_VALUE;
+            long least = 0;
             long greatest = 0;
             for (int w = Math.max(0, weekOf(day) - PAST_WEEKS); w < weekOf(day); w++) {
                 long then = arrivedIn(k, year - 1, w);
                 if (then > 0) {
                     long alone = base * arrivedIn(k, year, w) / then;
-                    least = Math.min(least, alone);
+                    least = before == 0 ? alone : Math.min(least, alone);
                     greatest = Math.max(greatest, alone);
                     before += then;
                     since += arrivedIn(k, year, w);

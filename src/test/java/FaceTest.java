@@ -1,4 +1,5 @@
 import java.io.IOException;
+import java.lang.reflect.Array;
 import java.lang.reflect.Constructor;
 import java.lang.reflect.Field;
 import java.lang.reflect.Method;
@@ -7,6 +8,7 @@ import java.nio.file.Files;
 import java.nio.file.Path;
 import java.util.ArrayList;
 import java.util.List;
+import java.util.regex.Matcher;
 import java.util.regex.Pattern;
 
 /** The class has the document's face and no other, and keeps out of what LANGUAGE.md rules out. */
@@ -27,6 +29,11 @@ public final class FaceTest {
     private static final String[] RULED_OUT = {"throw", "throws", "try", "catch", "synchronized", "assert", "protected",
         "native", "volatile", "transient", "Exception", "Error", "Thread", "Object", "Random", "hashCode", "equals",
         "toString", "var", "yield", "System", "Exact\\w*", "\\w+Exact"};
+    /** What the class uses of the library's static members and of its classes: all of it stands in rule 4. */
+    private static final List<String> LIBRARY = List.of("Integer.bitCount", "Math.max", "Math.min", "Arrays.copyOf",
+            "Arrays.fill");
+    private static final List<String> STATIC_TYPES = List.of("int", "long", "boolean", "char", "String", "int[]",
+            "long[]", "char[]", "byte[]");
     private static final Due DUE = new Due("FaceTest");
 
     private static String face(Method m) {
@@ -86,6 +93,36 @@ public final class FaceTest {
         }
     }
 
+    /** Static rows are of the types of rule 5, and as they were when much was done with books. */
+    private static void statics() throws IllegalAccessException {
+        List<Class<?>> all = new ArrayList<>(List.of(SupplyBook.class.getDeclaredClasses()));
+        all.add(SupplyBook.class);
+        String before = staticRows(all);
+        SupplyBook book = Rich.book();
+        book.shortWeek();
+        book.law(0, 3599, Rich.TAPE_TEXT.length());
+        book.pay(Rich.OPEN);
+        DUE.yes("static rows stay: " + before, staticRows(all).equals(before));
+    }
+
+    private static String staticRows(List<Class<?>> all) throws IllegalAccessException {
+        StringBuilder rows = new StringBuilder();
+        for (Class<?> c : all) {
+            for (Field f : c.getDeclaredFields()) {
+                if (Modifier.isStatic(f.getModifiers())) {
+                    DUE.yes("type of " + f, STATIC_TYPES.contains(f.getType().getSimpleName()));
+                    f.setAccessible(true);
+                    Object value = f.get(null);
+                    rows.append(f.getName()).append(' ');
+                    for (int i = 0; f.getType().isArray() && i < Array.getLength(value); i++) {
+                        rows.append(Array.get(value, i)).append(' ');
+                    }
+                }
+            }
+        }
+        return rows.toString();
+    }
+
     private static void source() throws IOException {
         String text = Files.readString(Path.of("src/main/java/SupplyBook.java"));
         for (char c : text.toCharArray()) {
@@ -94,6 +131,11 @@ public final class FaceTest {
         String code = text.replaceAll("(?s)/\\*.*?\\*/", " ").replaceAll("//[^\n]*", " ").replaceAll("\"[^\"\n]*\"", "S");
         for (String word : RULED_OUT) {
             DUE.no("ruled out: " + word, Pattern.compile("\\b" + word + "\\b").matcher(code).find());
+        }
+        String names = "\\b(Integer|Long|Math|Arrays|Character|Boolean|String|Double|Short|Byte)\\s*\\.\\s*\\w+";
+        Matcher used = Pattern.compile(names).matcher(code.replaceAll("import [^;]*;", ""));
+        while (used.find()) {
+            DUE.yes("of the library: " + used.group(), LIBRARY.contains(used.group()));
         }
         DUE.no("lambdas", code.contains("->"));
         DUE.no("method references", code.contains("::"));
@@ -115,9 +157,10 @@ public final class FaceTest {
         }
     }
 
-    public static void main(String[] args) throws IOException {
+    public static void main(String[] args) throws IOException, IllegalAccessException {
         members();
         nested();
+        statics();
         source();
         DUE.end();
     }

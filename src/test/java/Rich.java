@@ -1,3 +1,6 @@
+import java.util.ArrayList;
+import java.util.List;
+
 /**
  * A book in which there is some of everything, and what shows that a call changed nothing: the same probes on a book
  * with the call and on one without it, each on books of their own, as some of them change what they ask.
@@ -50,6 +53,7 @@ final class Rich {
     static final int SIGNED = 11;
 
     private static final int PROBES = 9;
+    private static final int PARTS = 3;
 
     private Rich() {
     }
@@ -253,6 +257,43 @@ final class Rich {
         due.yes(what + " shows", shown > 0);
     }
 
+    /** Whether of all that can be asked a call changes these rows alone, each told as "row: without it > with it". */
+    static void changes(Due due, String what, Call before, Call call, String... rows) {
+        ArrayList<String> got = new ArrayList<>();
+        for (int part = 0; part < PARTS; part++) {
+            SupplyBook with = book();
+            SupplyBook without = book();
+            before.on(with);
+            before.on(without);
+            call.on(with);
+            String[] shown = asked(with, part).split("\n");
+            String[] plain = asked(without, part).split("\n");
+            for (int i = 0; i < shown.length; i++) {
+                if (!shown[i].equals(plain[i])) {
+                    got.add(plain[i] + " >" + shown[i].substring(shown[i].lastIndexOf(':') + 1));
+                }
+            }
+        }
+        List<String> want = List.of(rows);
+        for (String row : got) {
+            due.yes(what + " changes " + row, want.contains(row));
+        }
+        for (String row : want) {
+            due.yes(what + " does not change " + row, got.contains(row));
+        }
+    }
+
+    /** What only asks: no row changes what a later one answers. */
+    private static String asked(SupplyBook book, int part) {
+        StringBuilder s = new StringBuilder();
+        switch (part) {
+            case 0: looks(book, s); break;
+            case 1: abouts(book, s); break;
+            default: foretells(book, s);
+        }
+        return s.toString();
+    }
+
     private static void compare(Due due, String what, int probe, SupplyBook with, SupplyBook without) {
         String[] shown = show(with, probe).split("\n");
         String[] plain = show(without, probe).split("\n");
@@ -346,6 +387,26 @@ final class Rich {
             row(s, "cut(" + total + ")", book.cut(total));
             row(s, "more(" + total + ")", book.more(total));
         }
+    }
+
+    private static void foretells(SupplyBook book, StringBuilder s) {
+        for (int year = 0; year < 3; year++) {
+            for (int week = 0; week < 52; week++) {
+                row(s, "came(0, " + year + ", " + week + ")", book.came(0, year, week));
+            }
+        }
+        int[] weeks = {2, 3, 4, 5, 51};
+        for (int week : weeks) {
+            for (int what = 0; what < 3; what++) {
+                row(s, "foretold(0, " + week + ", " + what + ")", book.foretold(0, week, what));
+                row(s, "foretold(1, " + week + ", " + what + ")", book.foretold(1, week, what));
+            }
+        }
+        for (int set = 0; set < 16; set++) {
+            row(s, "judge(" + set + ")", book.judge(set));
+        }
+        row(s, "plan()", book.plan());
+        row(s, "shortWeek()", book.shortWeek());
     }
 
     private static void tape(SupplyBook book, StringBuilder s) {
