@@ -767,6 +767,34 @@ public final class SentencesTest {
         DUE.is("d999999", never.falls(0), NONE);
     }
 
+    /** "If it was not covered on a day ahead of that one": covered on each day from that on which it was told on. */
+    private static void coversByDays() {
+        for (int late = 0; late < 12; late++) {
+            SupplyBook book = Due.filled();
+            Due.law(book, "d3;e1");
+            book.now(10);
+            int advance = book.advance(0, 10);
+            book.pay(Due.claim(book, 10));
+            int vote = book.vote(0, 0, 10, 0, 0);
+            book.now(10 + late);
+            DUE.yes("cover, " + late + " days later", book.cover(advance, vote));
+            DUE.is("that day", book.falls(advance), late < 4 ? NONE : 10);
+            book.now(400);
+            DUE.is("covered " + late + " days later, asked in the next year", book.falls(advance), NONE);
+            DUE.is("surcharged", book.surcharged(0), late < 4 ? 0 : 10);
+            SupplyBook other = Due.filled();
+            Due.law(other, "d3;e1");
+            other.now(10);
+            other.advance(0, 10);
+            other.pay(Due.claim(other, 10));
+            other.vote(0, 0, 10, 0, 0);
+            other.now(10 + late);
+            other.cover(advance, vote);
+            other.now(300);
+            DUE.is("covered " + late + " days later, asked for much later", other.falls(advance), late < 4 ? NONE : 10);
+        }
+    }
+
     /** A struck advance falls, too; one that is asked for too early is asked for again. */
     private static void fallsOfStruck() {
         SupplyBook book = Due.filled();
@@ -901,6 +929,7 @@ public final class SentencesTest {
         drawsOfYears();
         parts();
         fallsByDays();
+        coversByDays();
         fallsOfStruck();
         knownByDays();
         carriedByLastDay();
