@@ -14,6 +14,7 @@ public final class SupplyBook {
     private static final int DAYS_OF_WEEK = 7;
     private static final int WEEKS_OF_YEAR = 52;
     private static final int MOST_PENCE = 1000000000;
+    private static final long BILLION = 1000000000L;
     private static final long NOT_LEFT = -1000000000000L;
     private static final int THOUSAND = 1000;
     private static final int HUNDRED = 100;
@@ -1775,8 +1776,12 @@ public final class SupplyBook {
         private final int[] offerSpans = new int[MOST_OFFERS];
         private final int[] offerCosts = new int[MOST_OFFERS];
         private int offers = 0;
-        /** The chest at each week's end by the worst, as reckoned last. */
-        private final long[] worst = new long[WEEKS_OF_YEAR];
+        /**
+         * The chest at each week's end by the worst, as reckoned last: so many billions, and pence beside them. All
+         * that is foretold of a year can be more than a long holds.
+         */
+        private final long[] worstBillions = new long[WEEKS_OF_YEAR];
+        private final long[] worstPence = new long[WEEKS_OF_YEAR];
         /** What a set of offers brings and takes in each week. */
         private final long[] flow = new long[WEEKS_OF_YEAR];
 
@@ -1845,13 +1850,17 @@ public final class SupplyBook {
         }
 
         void reckonWorst(long chest, int day) {
-            long left = chest;
-            for (int week = weekOf(day) + 1; week < worst.length; week++) {
+            long billions = 0;
+            long pence = chest;
+            for (int week = weekOf(day) + 1; week < WEEKS_OF_YEAR; week++) {
                 for (int k = 0; k < TAXES; k++) {
-                    left += foreseen(k, week, 1, day);
+                    long least = foreseen(k, week, 1, day);
+                    billions += least / BILLION;
+                    pence += least % BILLION;
                 }
-                left -= dueIn(yearOf(day), week);
-                worst[week] = left;
+                pence -= dueIn(yearOf(day), week);
+                worstBillions[week] = billions;
+                worstPence[week] = pence;
             }
         }
 
@@ -1883,9 +1892,9 @@ public final class SupplyBook {
         int firstShort(int set, int day) {
             reckonFlow(set, weekOf(day));
             long brought = 0;
-            for (int week = weekOf(day) + 1; week < worst.length; week++) {
+            for (int week = weekOf(day) + 1; week < WEEKS_OF_YEAR; week++) {
                 brought += flow[week];
-                if (worst[week] + brought < 0) {
+                if (worstBillions[week] + Math.floorDiv(worstPence[week] + brought, BILLION) < 0) {
                     return week;
                 }
             }

@@ -30,8 +30,8 @@ public final class FaceTest {
         "native", "volatile", "transient", "Exception", "Error", "Thread", "Object", "Random", "hashCode", "equals",
         "toString", "var", "yield", "System", "Exact\\w*", "\\w+Exact"};
     /** What the class uses of the library's static members and of its classes: all of it stands in rule 4. */
-    private static final List<String> LIBRARY = List.of("Integer.bitCount", "Math.max", "Math.min", "Arrays.copyOf",
-            "Arrays.fill");
+    private static final List<String> LIBRARY = List.of("Integer.bitCount", "Math.floorDiv", "Math.max", "Math.min",
+            "Arrays.copyOf", "Arrays.fill");
     private static final List<String> STATIC_TYPES = List.of("int", "long", "boolean", "char", "String", "int[]",
             "long[]", "char[]", "byte[]");
     private static final Due DUE = new Due("FaceTest");

@@ -1,6 +1,6 @@
 /**
- * The sums and products that grow largest: beyond what an int holds wherever many pence come together, and "with 64
- * bits, as the machine does" where they grow beyond that.
+ * The sums and products that grow largest: beyond what an int holds wherever many pence come together; beyond 64 bits
+ * "as the machine does" in conditions of texts, and as they are in the chest by the worst.
  */
 public final class GreatSumsTest {
     private static final int NONE = SupplyBook.NONE;
@@ -228,28 +228,147 @@ public final class GreatSumsTest {
         DUE.is("plan", book.plan(), 0);
     }
 
-    /** Ten weeks of a tax foretold by a penny's growth, each MUCH times MUCH: the tenth is beyond 64 bits. */
-    private static void chestBeyondAll() {
+    /**
+     * A book on day 367 in which each of n taxes is foretold to bring MUCH times MUCH in weeks `from` to `last`, and
+     * nothing in others: of a penny of week 0 became MUCH.
+     */
+    private static SupplyBook grown(int n, int from, int last) {
         SupplyBook book = new SupplyBook();
-        book.comes(0, 1);
-        for (int week = 10; week < 20; week++) {
+        for (int k = 0; k < n; k++) {
+            book.comes(k, 1);
+        }
+        for (int week = from; week <= last; week++) {
             book.now(7 * week);
-            book.comes(0, MOST);
+            for (int k = 0; k < n; k++) {
+                book.comes(k, MOST);
+            }
         }
         book.now(360);
-        book.comes(0, MOST);
+        for (int k = 0; k < n; k++) {
+            book.comes(k, MOST);
+        }
         book.now(367);
+        return book;
+    }
+
+    /** Ten weeks, each MUCH times MUCH: the tenth is beyond 64 bits, and the chest is what it is. */
+    private static void chestBeyondAll() {
+        SupplyBook book = grown(1, 10, 19);
         long chest = book.sum(0);
         DUE.is("chest", chest, 11 * MUCH + 1);
         DUE.is("each week", book.foretold(0, 19, 1), MUCH * MUCH);
+        DUE.is("no other", book.foretold(0, 20, 1) + book.foretold(0, 9, 1), 0);
         long nine = chest + 9 * MUCH * MUCH;
-        DUE.yes("nine are held", nine > 0);
-        DUE.yes("ten are not", nine + MUCH * MUCH < 0);
-        DUE.is("as the machine does", book.shortWeek(), 19);
-        DUE.is("by no offers", book.judge(0), -2 - 19);
+        DUE.yes("a long holds nine", nine > 0);
+        DUE.yes("not ten", nine + MUCH * MUCH < 0);
+        DUE.is("not short", book.shortWeek(), NONE);
+        DUE.is("nothing is needed", book.plan(), 0);
+        DUE.is("by no offers", book.judge(0), 0);
+        for (int i = 0; i < 9; i++) {
+            book.offer(MOST, 19, 1 + i, MOST);
+        }
+        DUE.is("nor with offers", book.plan(), 0);
+        DUE.is("by all of them", book.judge(511), 9 * MUCH);
+        DUE.is("by the last", book.judge(256), MUCH);
+        for (int i = 0; i < 60; i++) {
+            book.due(19 + i / 2, MOST);
+        }
+        DUE.is("dues behind it are small", book.shortWeek(), NONE);
+        DUE.is("the plan is the same", book.plan(), 0);
+        DUE.is("by all offers, too", book.judge(511), 9 * MUCH);
+        book.now(360 + 7 * 18);
+        DUE.is("nothing came in weeks 14 to 17", book.foretold(0, 19, 1), 0);
+        DUE.is("the chest alone is for five weeks of dues", book.shortWeek(), 24);
+    }
+
+    /** What is short ahead of the weeks in which much is foretold is short, and goes back in them. */
+    private static void shortAheadOfMuch() {
+        SupplyBook book = grown(2, 5, 30);
+        long chest = book.sum(0);
+        DUE.is("chest", chest, 54 * MUCH + 2);
+        for (int i = 0; i < 54; i++) {
+            book.due(4, MOST);
+        }
+        book.due(3, 2);
+        DUE.is("all of the chest", book.shortWeek(), NONE);
+        book.due(4, 1);
+        DUE.is("a penny more", book.shortWeek(), 4);
+        DUE.is("by no offers", book.judge(0), -2 - 4);
         DUE.is("no plan", book.plan(), NONE);
-        book.now(360 + 350);
-        DUE.is("when they are past", book.shortWeek(), NONE);
+        book.offer(MOST, 5, 1, 0);
+        DUE.is("too late", book.judge(1), -2 - 4);
+        book.offer(MOST, 4, 1, MOST);
+        DUE.is("back in the first great week", book.judge(2), MUCH);
+        book.offer(1, 2, 40, MOST - 1);
+        DUE.is("back behind the great weeks", book.judge(4), MUCH - 1);
+        book.offer(1, 2, 2, 0);
+        DUE.is("back ahead of them", book.judge(8), -2 - 4);
+        DUE.is("the plan", book.plan(), 4);
+        book.due(3, MOST);
+        DUE.is("week 4 is still the first", book.shortWeek(), 4);
+        for (int i = 0; i < 54; i++) {
+            book.due(3, MOST);
+        }
+        DUE.is("week 3 now", book.shortWeek(), 3);
+    }
+
+    /** Six taxes in 51 weeks: some 17 times what 64 bits tell apart. */
+    private static void chestOfAllTaxes() {
+        SupplyBook book = grown(6, 1, 51);
+        DUE.is("each", book.foretold(5, 51, 1), MUCH * MUCH);
+        DUE.is("not short", book.shortWeek(), NONE);
+        DUE.is("plan", book.plan(), 0);
+        DUE.is("judge", book.judge(0), 0);
+        DUE.yes("due", book.due(2, MOST));
+        DUE.is("an offer", book.offer(MOST, 2, 20, MOST), 0);
+        DUE.is("still not short", book.shortWeek(), NONE);
+        DUE.is("the plan is empty", book.plan(), 0);
+        DUE.is("judge of the offer", book.judge(1), MUCH);
+    }
+
+    /** Spans of more than a billion and not of whole billions: dues of as much are met, to the penny. */
+    private static void spansToThePenny() {
+        SupplyBook book = new SupplyBook();
+        book.comes(0, 2);
+        book.comes(1, 3);
+        book.now(70);
+        book.comes(0, 999999999);
+        book.comes(1, MOST);
+        book.now(77);
+        book.comes(0, 5);
+        book.now(360);
+        book.comes(0, 7);
+        book.comes(1, 5);
+        book.now(367);
+        long chest = book.sum(0);
+        DUE.is("chest", chest, 2000000021);
+        DUE.is("tax 0", book.foretold(0, 10, 1), 3499999996L);
+        DUE.is("tax 1", book.foretold(1, 10, 1), 1666666666);
+        DUE.is("a week later", book.foretold(0, 11, 1), 17);
+        for (int i = 0; i < 7; i++) {
+            DUE.is("not short by " + i, book.shortWeek(), NONE);
+            book.due(10, MOST);
+        }
+        book.due(10, 166666683);
+        DUE.is("all of it", book.shortWeek(), NONE);
+        DUE.is("by no offers", book.judge(0), 0);
+        book.due(11, 17);
+        DUE.is("all of the next week", book.shortWeek(), NONE);
+        book.due(12, 1);
+        DUE.is("nothing is left for a penny", book.shortWeek(), 12);
+        book.due(11, 1);
+        DUE.is("a penny more than the next week has", book.shortWeek(), 11);
+        book.due(10, 1);
+        DUE.is("a penny more than week 10 has", book.shortWeek(), 10);
+        book.offer(2, 10, 41, 9);
+        book.offer(1, 12, 1, 0);
+        DUE.is("two pence lack one later", book.judge(1), -2 - 12);
+        DUE.is("till the third comes", book.judge(3), -2 - 13);
+        book.offer(3, 9, 43, 8);
+        DUE.is("three pence", book.plan(), 4);
+        DUE.is("what they cost", book.judge(4), 8);
+        book.due(9, MOST);
+        DUE.is("week 9 has it, week 10 lacks it", book.judge(4), -2 - 10);
     }
 
     private static void muchDue() {
@@ -373,6 +492,9 @@ public final class GreatSumsTest {
         drawsOfMuch();
         muchForetold();
         chestBeyondAll();
+        shortAheadOfMuch();
+        chestOfAllTaxes();
+        spansToThePenny();
         muchDue();
         muchGoesBack();
         muchInterest();

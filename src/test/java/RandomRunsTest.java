@@ -1,3 +1,4 @@
+import java.math.BigInteger;
 import java.util.ArrayList;
 import java.util.List;
 import java.util.Random;
@@ -731,30 +732,30 @@ public final class RandomRunsTest {
             return true;
         }
 
-        long worst(int at) {
-            long s = chest;
+        BigInteger worst(int at) {
+            BigInteger s = BigInteger.valueOf(chest);
             for (int w = week() + 1; w <= at; w++) {
                 for (int k = 0; k < 6; k++) {
-                    s += foretold(k, w, 1);
+                    s = s.add(BigInteger.valueOf(foretold(k, w, 1)));
                 }
                 for (int[] d : dues) {
-                    s -= d[0] == year() && d[1] == w ? d[2] : 0;
+                    s = s.subtract(BigInteger.valueOf(d[0] == year() && d[1] == w ? d[2] : 0));
                 }
             }
             return s;
         }
 
-        long[] worstRow() {
-            long[] row = new long[52];
+        BigInteger[] worstRow() {
+            BigInteger[] row = new BigInteger[52];
             for (int w = week() + 1; w < 52; w++) {
                 row[w] = worst(w);
             }
             return row;
         }
 
-        int shortBy(int set, long[] row) {
+        int shortBy(int set, BigInteger[] row) {
             for (int w = week() + 1; w < 52; w++) {
-                long s = row[w];
+                long s = 0;
                 for (int i = 0; i < offers.size(); i++) {
                     int[] o = offers.get(i);
                     if ((set >> i & 1) == 1 && o[1] > week() && o[1] <= w) {
@@ -762,7 +763,7 @@ public final class RandomRunsTest {
                         s -= o[1] + o[2] <= w ? (long) o[0] + o[3] : 0;
                     }
                 }
-                if (s < 0) {
+                if (row[w].add(BigInteger.valueOf(s)).signum() < 0) {
                     return w;
                 }
             }
@@ -791,7 +792,7 @@ public final class RandomRunsTest {
 
         int plan() {
             int best = NONE;
-            long[] row = worstRow();
+            BigInteger[] row = worstRow();
             for (int set = (1 << offers.size()) - 1; set >= 0; set--) {
                 if (shortBy(set, row) != NONE) {
                     continue;
@@ -1930,6 +1931,29 @@ public final class RandomRunsTest {
         }
     }
 
+    /** Taxes that grow from pence to as much as can come: what is foretold together is more than a long holds. */
+    private void growth() {
+        boolean isLean = model.week() < 3;
+        boolean isGrown = model.year() % 2 == 1;
+        for (int k = 0; k < 3; k++) {
+            int less = random.nextInt(random.nextBoolean() ? 3 : 900000000);
+            fill(k, isLean && !isGrown ? 1 + random.nextInt(3) : 1000000000 - less);
+        }
+        int day = model.day + 7 * (1 + random.nextInt(isLean ? 2 : 4));
+        for (int i = 0; isGrown && i < 6; i++) {
+            weeks();
+            int week = Math.min(51, model.week() + 1 + random.nextInt(9));
+            int sum = random.nextInt(3) == 0 ? sum() : 1000000000;
+            due("due(" + week + "," + sum + ")", book.due(week, sum), model.due(week, sum));
+            due("judge(0)", book.judge(0), model.judge(0));
+        }
+        if (isGrown && !isLean) {
+            day = (model.year() + 1) * 360;
+        }
+        int next = day;
+        due("now(" + next + ")", book.now(next), model.now(next));
+    }
+
     /** Advances that pay, are covered early or late, and fall. */
     private void advancesAlone() {
         if (model.laws.isEmpty()) {
@@ -2013,7 +2037,7 @@ public final class RandomRunsTest {
 
     private void run() {
         found();
-        int theme = random.nextInt(9);
+        int theme = random.nextInt(10);
         int most = random.nextInt(20) == 0 ? 512 : 250;
         while (calls < most && !wrong) {
             if (theme == 0 && calls > 10) {
@@ -2026,10 +2050,12 @@ public final class RandomRunsTest {
                 advancesAlone();
             } else if (theme == 4) {
                 votes();
+            } else if (theme == 5) {
+                growth();
             } else {
                 anything();
             }
-            if (theme < 5 && random.nextInt(12) == 0) {
+            if (theme < 6 && random.nextInt(12) == 0) {
                 anything();
             }
         }
